@@ -1,0 +1,112 @@
+/** What the project's tests share: desks with texts on them, and answers compared with those due. */
+final class Check {
+    interface Call {
+        void run();
+    }
+
+    private int wrong;
+
+    static SchemaDesk desk(String schema, String document) {
+        SchemaDesk desk = new SchemaDesk();
+        fill(desk, 0, schema);
+        fill(desk, 1, document);
+        return desk;
+    }
+
+    static void fill(SchemaDesk desk, int t, String text) {
+        for (int k = 0; k < text.length(); k++) {
+            if (!desk.type(t, text.charAt(k))) {
+                throw new AssertionError("text " + t + " does not take: " + text);
+            }
+        }
+    }
+
+    static String text(SchemaDesk desk, int t) {
+        StringBuilder text = new StringBuilder();
+        for (int at = 0; at < desk.length(t); at++) {
+            text.append(desk.letter(t, at));
+        }
+        return text.toString();
+    }
+
+    /** Each fault as number@place. */
+    static String faults(SchemaDesk desk, int t) {
+        StringBuilder all = new StringBuilder();
+        for (int k = 0; k < desk.faults(t); k++) {
+            int fault = desk.fault(t, k);
+            all.append(k == 0 ? "" : " ").append(fault % 16).append('@').append(fault / 16);
+        }
+        return all.toString();
+    }
+
+    /** Each node as kind/from/to/parent/children/name/number. */
+    static String nodes(SchemaDesk desk, int t) {
+        StringBuilder all = new StringBuilder();
+        for (int k = 0; k < desk.nodes(t); k++) {
+            all.append(k == 0 ? "" : " ");
+            for (int what = 0; what < 7; what++) {
+                all.append(what == 0 ? "" : "/").append(desk.node(t, k, what));
+            }
+        }
+        return all.toString();
+    }
+
+    /** Each diagnostic of the latest judge() as code/document node/schema node. */
+    static String diagnostics(SchemaDesk desk, int count) {
+        StringBuilder all = new StringBuilder();
+        for (int k = 0; k < count; k++) {
+            all.append(k == 0 ? "" : " ").append(desk.diagnostic(k, 0));
+            all.append('/').append(desk.diagnostic(k, 1)).append('/').append(desk.diagnostic(k, 2));
+        }
+        return all.toString();
+    }
+
+    static String judged(SchemaDesk desk) {
+        return diagnostics(desk, desk.judge());
+    }
+
+    static String judged(String schema, String document) {
+        return judged(desk(schema, document));
+    }
+
+    /** The names of the latest propose(), each in '. */
+    static String proposals(SchemaDesk desk, int count) {
+        StringBuilder all = new StringBuilder();
+        for (int k = 0; k < count; k++) {
+            all.append(k == 0 ? "'" : " '");
+            for (int j = 0; desk.proposal(k, j) != SchemaDesk.NONE; j++) {
+                all.append((char) desk.proposal(k, j));
+            }
+            all.append('\'');
+        }
+        return all.toString();
+    }
+
+    static String proposed(String schema, String document, int i) {
+        SchemaDesk desk = desk(schema, document);
+        return proposals(desk, desk.propose(i));
+    }
+
+    void same(String what, Object got, Object due) {
+        if (!got.equals(due)) {
+            wrong++;
+            System.out.println(what + " answered " + got + ", due is " + due);
+        }
+    }
+
+    void throwing(String what, Class<? extends RuntimeException> due, Call call) {
+        String got = "nothing";
+        try {
+            call.run();
+        } catch (RuntimeException e) {
+            got = e.getClass().getSimpleName();
+        }
+        same(what + " throws", got, due.getSimpleName());
+    }
+
+    void end() {
+        if (wrong > 0) {
+            System.exit(1);
+        }
+    }
+}
