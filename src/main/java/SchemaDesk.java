@@ -317,7 +317,7 @@ public final class SchemaDesk {
         verdicts.fresh = false;
     }
 
-    /** The words of the document's list, by their numbers from 1 on, and behind them false, true. */
+    /** The words of promise 3 by their numbers, and behind them false and true. */
     private static final class WordBook {
         private final char[] letters;
         private final int[] starts;
@@ -453,7 +453,7 @@ public final class SchemaDesk {
             name = new int[limit];
             number = new int[limit];
             behind = new int[limit];
-            // No character brings more than two faults, but for those at the end of the text.
+            // On an average a character brings two faults at most, and the end of the text a few.
             faultRow = new int[3 * limit];
         }
 

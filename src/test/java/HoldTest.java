@@ -17,6 +17,7 @@ public final class HoldTest {
         unevaluated();
         firstOfAName();
         otherNodes();
+        fullTexts();
         circles();
         wrongArguments();
         check.end();
@@ -55,9 +56,11 @@ public final class HoldTest {
         fails("{\"type\":\"true\"}", "true");
         fails("{\"type\":\"\"}", "null");
         holds("{\"type\":[\"null\",\"array\"]}", "[]");
+        holds("{\"type\":[\"null\",\"array\"]}", "null");
         fails("{\"type\":[\"null\",\"array\"]}", "{}");
         fails("{\"type\":[null,5,[\"null\"]]}", "null");
         fails("{\"type\":[]}", "1");
+        fails("{\"type\":[],\"a\":\"number\"}", "1");
         holds("{\"type\":5}", "1");
         holds("{\"type\":{\"a\":\"null\"}}", "1");
     }
@@ -89,6 +92,8 @@ public final class HoldTest {
         holds("{\"const\":[[[[[[[5]]]]]]]}", "[[[[[[[5]]]]]]]");
         fails("{\"const\":[[[[[[[5]]]]]]]}", "[[[[[[[6]]]]]]]");
         holds("{\"enum\":[1,[2],null]}", "[2]");
+        holds("{\"enum\":[1,[2],null]}", "1");
+        holds("{\"enum\":[1,[2],null]}", "null");
         fails("{\"enum\":[1,[2],null]}", "2");
         fails("{\"enum\":[]}", "2");
         holds("{\"enum\":{\"a\":1}}", "2");
@@ -264,6 +269,23 @@ public final class HoldTest {
         check.same("last of the most nodes", wide.holds(158, 79), true);
     }
 
+    /** A string that the end of a full text ends. */
+    private static void fullTexts() {
+        String tail = "\"ref\":\"#a";
+        String head = "{\"defs\":{\"a\":false},";
+        String full = head + " ".repeat(160 - head.length() - tail.length()) + tail;
+        fails(full, "1");
+        String noTarget = "{" + " ".repeat(152) + "\"ref\":\"";
+        fails(noTarget, "1");
+        check.throwing("ref # at the end of a full text", UnsupportedOperationException.class,
+                () -> Check.desk("{" + " ".repeat(151) + "\"ref\":\"#", "1").holds(0, 0));
+        String word = "{" + " ".repeat(148) + "\"const\":\"ab";
+        holds(word, " ".repeat(77) + "\"ab");
+        holds(word, "\"ab\"");
+        fails(word, "\"abc\"");
+        fails(word, "\"a\"");
+    }
+
     private static void circles() {
         circle("{\"ref\":\"#\"}");
         circle("{\"allof\":[1,{\"ref\":\"#\"}]}");
@@ -278,6 +300,7 @@ public final class HoldTest {
         circle("{\"allof\":{\"ref\":\"#\"}}", false);
         circle("{\"allof\":[[{\"ref\":\"#\"}]]}", false);
         circle("{\"ref\":1,\"ref\":\"#\"}", false);
+        circle("{\"ref\":[#]}", false);
         circle("{\"ref\":\"#a\"}", false);
         circle("{\"defs\":{\"a\":{\"ref\":\"#b\"},\"b\":{\"ref\":\"#c\"},\"c\":{}}}", false);
         circle("{\"defs\":{\"c\":{},\"b\":{\"ref\":\"#c\"},\"a\":{\"ref\":\"#b\"}}}", false);

@@ -11,6 +11,7 @@ public final class JudgeTest {
         orderAndOnce();
         manyDiagnostics();
         latestJudging();
+        againOnOneDesk();
         wrongArguments();
         check.end();
     }
@@ -110,6 +111,22 @@ public final class JudgeTest {
         desk.remove(1, 1, 2);
         check.same("third", desk.judge(), 0);
         check.throwing("none is left", NoSuchElementException.class, () -> desk.diagnostic(0, 0));
+    }
+
+    private static void againOnOneDesk() {
+        SchemaDesk desk = Check.desk("{\"items\":false}", "[1,2]");
+        check.same("both", Check.judged(desk), "0/1/1 0/2/1");
+        desk.remove(1, 0, 5);
+        Check.fill(desk, 1, "[1]");
+        check.same("one", Check.judged(desk), "0/1/1");
+        desk.remove(1, 0, 3);
+        Check.fill(desk, 1, "{\"a\":1,\"b\":1}");
+        check.same("none", Check.judged(desk), "");
+        desk.remove(0, 0, 15);
+        Check.fill(desk, 0, "{\"unevaluated\":false,\"additional\":1}");
+        check.same("evaluated", Check.judged(desk), "");
+        desk.remove(0, 20, 15);
+        check.same("no longer evaluated", Check.judged(desk), "0/1/1 0/2/1");
     }
 
     private static void wrongArguments() {

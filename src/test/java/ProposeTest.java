@@ -10,6 +10,8 @@ public final class ProposeTest {
         notReached();
         inOrder();
         withFaults();
+        fullText();
+        againOnOneDesk();
         latestProposing();
         wrongArguments();
         check.end();
@@ -77,6 +79,14 @@ public final class ProposeTest {
         proposed("{\"properties\":{\"b\":1}}", "{\"b\"}", 0, "'b'");
     }
 
+    /** The last of the names is one that nothing ends but the end of a full text. */
+    private static void fullText() {
+        String head = "{\"properties\":{\"abc\":1,\"ab\":1,\"b\":1,";
+        String full = head + " ".repeat(160 - head.length() - 9) + "\"ac\":1,\"a";
+        proposed(full, "{}", 0, "'ab' 'abc' 'ac' 'b'");
+        proposed(full, "{\"b\":1,\"ac\":1,\"ab\":1}", 0, "'abc'");
+    }
+
     private static void latestProposing() {
         SchemaDesk desk = Check.desk("{\"properties\":{\"cd\":1,\"ab\":1}}", "[{}]");
         check.same("not reached", desk.propose(1), 0);
@@ -95,6 +105,14 @@ public final class ProposeTest {
         Check.fill(desk, 1, "{}");
         check.same("next", Check.proposals(desk, desk.propose(0)), "'x'");
         check.throwing("one is left", NoSuchElementException.class, () -> desk.proposal(1, 0));
+    }
+
+    private static void againOnOneDesk() {
+        SchemaDesk desk = Check.desk("{\"items\":{\"properties\":{\"b\":1}}}", "[{}]");
+        check.same("reached by items", Check.proposals(desk, desk.propose(1)), "'b'");
+        desk.remove(1, 0, 4);
+        Check.fill(desk, 1, "{\"a\":{}}");
+        check.same("no longer reached", desk.propose(1), 0);
     }
 
     private static void wrongArguments() {

@@ -26,7 +26,7 @@ public final class RandomTest {
             compare(soup(160), soup(80));
             compare(spoiled(fitting(160), 160), spoiled(fitting(80), 80));
             compare(fitting(160), fitting(80));
-            compare(fitting(160), fitting(80));
+            compareOneDesk();
         }
         System.out.println("judged with findings " + judgedWithFindings + ", circles " + circles
                 + ", proposed names " + proposedNames);
@@ -40,7 +40,7 @@ public final class RandomTest {
     private static String soup(int limit) {
         String alphabet = "{{[[}}]]\"\"\"\",,::-019 abnulltruefalse#?A";
         StringBuilder text = new StringBuilder();
-        int length = random.nextInt(limit + 1);
+        int length = random.nextInt(3) == 0 ? limit : random.nextInt(limit + 1);
         while (text.length() < length) {
             text.append(alphabet.charAt(random.nextInt(alphabet.length())));
         }
@@ -200,6 +200,39 @@ public final class RandomTest {
         compareProposing(plain, circular);
     }
 
+    /** One desk whose texts are replaced again and again: nothing of the old ones may be left. */
+    private static void compareOneDesk() {
+        schema = fitting(160);
+        document = fitting(80);
+        desk = null;
+        for (int round = 0; round < 5; round++) {
+            PlainDesk plain = new PlainDesk(schema, document);
+            boolean circular = plain.circular();
+            compareNumbers(0, plain.schema);
+            compareNumbers(1, plain.document);
+            compareHolding(plain, circular);
+            compareJudging(plain, circular);
+            compareProposing(plain, circular);
+            replace(random.nextInt(2));
+        }
+    }
+
+    private static void replace(int t) {
+        String text = fitting(t == 0 ? 160 : 80);
+        need(1 + text.length());
+        desk.remove(t, 0, (t == 0 ? schema : document).length());
+        Check.fill(desk, t, text);
+        schema = t == 0 ? text : schema;
+        document = t == 1 ? text : document;
+    }
+
+    private static void compareNumbers(int t, PlainDesk.Reading due) {
+        for (PlainDesk.Node node : due.nodes) {
+            need(1);
+            same("number of node " + node.id + " of " + t, desk.node(t, node.id, 6), node.number);
+        }
+    }
+
     private static void compareReading(int t, PlainDesk.Reading due) {
         need(2);
         same("nodes of " + t, desk.nodes(t), due.nodes.size());
@@ -279,19 +312,20 @@ public final class RandomTest {
             if (i.kind != 6 || plain.schema.nodes.isEmpty()) {
                 continue;
             }
-            need(1 + 2 * 160);
+            List<String> due = new ArrayList<>();
+            if (!circular) {
+                plain.proposals(i).forEach(name -> due.add("'" + name + "'"));
+                proposedNames += due.size();
+            }
+            String all = String.join(" ", due);
+            need(1 + 2 * all.length());
             String got;
             try {
                 got = Check.proposals(desk, desk.propose(i.id));
             } catch (UnsupportedOperationException e) {
                 got = "circle";
             }
-            List<String> due = new ArrayList<>();
-            if (!circular) {
-                plain.proposals(i).forEach(name -> due.add("'" + name + "'"));
-                proposedNames += due.size();
-            }
-            same("propose " + i.id, got, circular ? "circle" : String.join(" ", due));
+            same("propose " + i.id, got, circular ? "circle" : all);
         }
     }
 }

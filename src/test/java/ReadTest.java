@@ -11,6 +11,7 @@ public final class ReadTest {
         objects();
         depth();
         mostNodesAndFaults();
+        fullTexts();
         bothTexts();
         wrongArguments();
         check.end();
@@ -39,6 +40,7 @@ public final class ReadTest {
         read("nul", "0/0/3/-1/0/-1/0", "7@0");
         read(" trues", "0/1/6/-1/0/-1/0", "7@1");
         read("trueX", "2/0/4/-1/0/-1/0", "2@4");
+        read("az", "0/0/2/-1/0/-1/0", "7@0");
         read("string", "0/0/6/-1/0/-1/0", "7@0");
         read("-", "3/0/1/-1/0/-1/0", "5@0");
         read("-12", "3/0/3/-1/0/-1/-12", "");
@@ -116,6 +118,28 @@ public final class ReadTest {
         check.same("last fault", desk.fault(1, 157), 4);
         SchemaDesk members = Check.desk("{\"\":1" + "\"\"?".repeat(51) + "\"", "");
         check.same("faults of members", members.faults(0), 5 * 51 + 5 + 1);
+    }
+
+    /** The text's last place is the row's last one: nothing may be looked for behind it. */
+    private static void fullTexts() {
+        String blanks = " ".repeat(72);
+        read(" ".repeat(80), "", "1@80");
+        read("?".repeat(79) + "1", "3/79/80/-1/0/-1/1",
+                Check.faults(Check.desk("", "?".repeat(79)), 1).replace(" 1@79", ""));
+        read("z".repeat(80), "0/0/80/-1/0/-1/0", "7@0");
+        read("5".repeat(80), "3/0/80/-1/0/-1/555555", "6@0");
+        read("\"" + "z".repeat(79), "4/0/80/-1/0/-1/0", "4@0");
+        read(blanks + "[       ", "5/72/80/-1/0/-1/0", "4@72");
+        read(blanks + "[      -", "5/72/80/-1/1/-1/0 3/79/80/0/0/-1/0", "5@79 4@72");
+        read(blanks + "[     1,", "5/72/80/-1/1/-1/0 3/78/79/0/0/-1/1", "4@72");
+        read(blanks + "{     \"a", "6/72/80/-1/0/-1/0", "4@78 11@80 12@80 4@72");
+        read(blanks + "{    \"a\"", "6/72/80/-1/0/-1/0", "11@80 12@80 4@72");
+        read(blanks + "{   \"a\":", "6/72/80/-1/0/-1/0", "12@80 4@72");
+        read(blanks + "{  \"a\":1", "6/72/80/-1/1/-1/0 3/79/80/0/0/75/1", "4@72");
+        read(" ".repeat(71) + "{\"\":1,\" \"", "6/71/80/-1/1/-1/0 3/75/76/0/0/72/1",
+                "11@80 12@80 4@71");
+        read(" ".repeat(71) + "{\" \":1,\" ", "6/71/80/-1/1/-1/0 3/76/77/0/0/72/1",
+                "4@78 13@78 11@80 12@80 4@71");
     }
 
     private static void bothTexts() {
