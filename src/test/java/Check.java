@@ -1,3 +1,5 @@
+import java.util.NoSuchElementException;
+
 /** What the project's tests share: desks with texts on them, and answers compared with those due. */
 final class Check {
     interface Call {
@@ -5,6 +7,12 @@ final class Check {
     }
 
     private int wrong;
+    private String sentence = "";
+
+    /** The sentence of the document that the answers checked from here on are about. */
+    void about(String words) {
+        sentence = "[" + words + "] ";
+    }
 
     static SchemaDesk desk(String schema, String document) {
         SchemaDesk desk = new SchemaDesk();
@@ -23,7 +31,8 @@ final class Check {
 
     static String text(SchemaDesk desk, int t) {
         StringBuilder text = new StringBuilder();
-        for (int at = 0; at < desk.length(t); at++) {
+        int length = desk.length(t);
+        for (int at = 0; at < length; at++) {
             text.append(desk.letter(t, at));
         }
         return text.toString();
@@ -32,7 +41,8 @@ final class Check {
     /** Each fault as number@place. */
     static String faults(SchemaDesk desk, int t) {
         StringBuilder all = new StringBuilder();
-        for (int k = 0; k < desk.faults(t); k++) {
+        int count = desk.faults(t);
+        for (int k = 0; k < count; k++) {
             int fault = desk.fault(t, k);
             all.append(k == 0 ? "" : " ").append(fault % 16).append('@').append(fault / 16);
         }
@@ -42,7 +52,8 @@ final class Check {
     /** Each node as kind/from/to/parent/children/name/number. */
     static String nodes(SchemaDesk desk, int t) {
         StringBuilder all = new StringBuilder();
-        for (int k = 0; k < desk.nodes(t); k++) {
+        int count = desk.nodes(t);
+        for (int k = 0; k < count; k++) {
             all.append(k == 0 ? "" : " ");
             for (int what = 0; what < 7; what++) {
                 all.append(what == 0 ? "" : "/").append(desk.node(t, k, what));
@@ -87,10 +98,56 @@ final class Check {
         return proposals(desk, desk.propose(i));
     }
 
+    /** Kind and from of each node, for tests in which the rest doesn't matter. */
+    static String kinds(SchemaDesk desk, int t) {
+        StringBuilder all = new StringBuilder();
+        int count = desk.nodes(t);
+        for (int k = 0; k < count; k++) {
+            all.append(k == 0 ? "" : " ").append(desk.node(t, k, 0)).append('@');
+            all.append(desk.node(t, k, 1));
+        }
+        return all.toString();
+    }
+
+    /** All that a desk answers without being changed: texts, nodes, faults, the latest results. */
+    static String everything(SchemaDesk desk) {
+        StringBuilder all = new StringBuilder();
+        for (int t = 0; t < 2; t++) {
+            all.append(text(desk, t)).append(" | ").append(nodes(desk, t)).append(" | ");
+            all.append(faults(desk, t)).append(" | ");
+        }
+        return all.append(latestDiagnostics(desk)).append(" | ").append(latestProposals(desk))
+                .toString();
+    }
+
+    static String latestDiagnostics(SchemaDesk desk) {
+        int count = 0;
+        try {
+            while (true) {
+                desk.diagnostic(count, 0);
+                count++;
+            }
+        } catch (NoSuchElementException e) {
+            return diagnostics(desk, count);
+        }
+    }
+
+    static String latestProposals(SchemaDesk desk) {
+        int count = 0;
+        try {
+            while (true) {
+                desk.proposal(count, 0);
+                count++;
+            }
+        } catch (NoSuchElementException e) {
+            return proposals(desk, count);
+        }
+    }
+
     void same(String what, Object got, Object due) {
         if (!got.equals(due)) {
             wrong++;
-            System.out.println(what + " answered " + got + ", due is " + due);
+            System.out.println(sentence + what + " answered " + got + ", due is " + due);
         }
     }
 
