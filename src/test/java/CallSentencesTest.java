@@ -17,6 +17,9 @@ public final class CallSentencesTest {
             UnsupportedOperationException.class;
 
     public static void main(String[] args) {
+        limitsOfTheTexts();
+        codesOfCharacters();
+        placesFromZero();
         newObject();
         type();
         typeRefused();
@@ -54,6 +57,60 @@ public final class CallSentencesTest {
         proposalOfTheLatest();
         proposalRefused();
         check.end();
+    }
+
+    private static void limitsOfTheTexts() {
+        check.about("TEXT 0 is the SCHEMA, of at most 160 characters, text 1 the DOCUMENT, of at most"
+                + " 80;");
+        for (int t = 0; t < 2; t++) {
+            int limit = t == 0 ? 160 : 80;
+            int of = t;
+            SchemaDesk typed = new SchemaDesk();
+            SchemaDesk inserted = new SchemaDesk();
+            for (int n = 0; n < limit; n++) {
+                check.same("type " + n + " into " + t, typed.type(t, 'a'), true);
+                inserted.insert(t, 0, 'a');
+            }
+            check.same("type into full " + t, typed.type(t, 'a'), false);
+            check.throwing("insert into full " + t, STATE, () -> inserted.insert(of, 0, 'a'));
+            check.same("length of " + t, typed.length(t), limit);
+            check.same("length of " + t, inserted.length(t), limit);
+            SchemaDesk words = new SchemaDesk();
+            for (int n = 0; n < limit / 8; n++) {
+                check.same("word " + n + " into " + t, words.word(t, 24), true);
+            }
+            check.same("word into full " + t, words.word(t, 22), false);
+            check.same("length of " + t, words.length(t), limit);
+            check.same("the other one has room", words.type(1 - t, 'a'), true);
+        }
+    }
+
+    private static void codesOfCharacters() {
+        check.about("characters have the codes 32 to 126.");
+        for (int code = 0; code < 400; code++) {
+            char c = (char) code;
+            boolean due = code >= 32 && code <= 126;
+            SchemaDesk desk = new SchemaDesk();
+            check.same("type code " + code, desk.type(code % 2, c), due);
+            if (due) {
+                desk.insert(1, 0, c);
+                check.same("letter of code " + code, desk.letter(1, 0), c);
+            } else {
+                check.throwing("insert code " + code, ARGUMENT, () -> desk.insert(1, 0, c));
+            }
+        }
+    }
+
+    private static void placesFromZero() {
+        check.about("PLACES are counted from 0.");
+        SchemaDesk desk = Check.desk("[?", "a");
+        check.same("letter", desk.letter(0, 0), '[');
+        check.same("from", desk.node(0, 0, 1), 0);
+        check.same("fault", desk.fault(0, 0), 3 + 16);
+        desk.insert(1, 0, 'b');
+        check.same("inserted", Check.text(desk, 1), "ba");
+        desk.remove(1, 0, 1);
+        check.same("removed", Check.text(desk, 1), "a");
     }
 
     private static void newObject() {
@@ -512,6 +569,12 @@ public final class CallSentencesTest {
         check.same("behind a change of the document", desk.holds(1, 2), true);
         desk.insert(0, 8, '-');
         check.same("behind a change of the schema", desk.holds(1, 2), false);
+        SchemaDesk evaluated = Check.desk("{\"unevaluated\":false,\"additional\":1}", "{\"a\":1}");
+        check.same("evaluated", evaluated.holds(0, 0), true);
+        evaluated.remove(0, 20, 15);
+        check.same("no longer evaluated", evaluated.holds(0, 0), false);
+        evaluated.remove(1, 1, 5);
+        check.same("no child", evaluated.holds(0, 0), true);
     }
 
     private static void holdsWithoutNode() {
@@ -560,6 +623,9 @@ public final class CallSentencesTest {
         check.same("again", desk.judge(), 1);
         desk.remove(1, 1, 1);
         check.same("behind a change", desk.judge(), 0);
+        desk.remove(1, 0, 2);
+        Check.fill(desk, 1, "{\"a\":1}");
+        check.same("for an OBJECT", desk.judge(), 0);
     }
 
     private static void judgeWithFaults() {
@@ -651,6 +717,8 @@ public final class CallSentencesTest {
         SchemaDesk desk = Check.desk(schema, "{\"b\":{}}");
         check.same("none", desk.propose(0), 0);
         check.same("two", desk.propose(1), 2);
+        check.same("two again", desk.propose(1), 2);
+        check.same("none again", desk.propose(0), 0);
         desk.remove(1, 2, 1);
         check.same("one, behind a change", desk.propose(0), 1);
         check.same("none, behind a change", desk.propose(1), 0);

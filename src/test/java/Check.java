@@ -1,6 +1,7 @@
 import java.util.NoSuchElementException;
+import java.util.function.IntConsumer;
 
-/** What the project's tests share: desks with texts on them, and answers compared with those due. */
+/** What the tests share: desks with texts on them, and answers compared with those due. */
 final class Check {
     interface Call {
         void run();
@@ -85,8 +86,10 @@ final class Check {
         StringBuilder all = new StringBuilder();
         for (int k = 0; k < count; k++) {
             all.append(k == 0 ? "'" : " '");
-            for (int j = 0; desk.proposal(k, j) != SchemaDesk.NONE; j++) {
-                all.append((char) desk.proposal(k, j));
+            int c = desk.proposal(k, 0);
+            for (int j = 1; c != SchemaDesk.NONE && j <= 161; j++) {
+                all.append((char) c);
+                c = desk.proposal(k, j);
             }
             all.append('\'');
         }
@@ -121,27 +124,23 @@ final class Check {
     }
 
     static String latestDiagnostics(SchemaDesk desk) {
-        int count = 0;
-        try {
-            while (true) {
-                desk.diagnostic(count, 0);
-                count++;
-            }
-        } catch (NoSuchElementException e) {
-            return diagnostics(desk, count);
-        }
+        return diagnostics(desk, countUntilThrown(k -> desk.diagnostic(k, 0)));
     }
 
     static String latestProposals(SchemaDesk desk) {
-        int count = 0;
-        try {
-            while (true) {
-                desk.proposal(count, 0);
-                count++;
+        return proposals(desk, countUntilThrown(k -> desk.proposal(k, 0)));
+    }
+
+    /** Bounded, so that a desk that never says that it has no more makes a test fail, not hang. */
+    private static int countUntilThrown(IntConsumer call) {
+        for (int k = 0; k < 200; k++) {
+            try {
+                call.accept(k);
+            } catch (NoSuchElementException e) {
+                return k;
             }
-        } catch (NoSuchElementException e) {
-            return proposals(desk, count);
         }
+        throw new AssertionError("no end of the latest results");
     }
 
     void same(String what, Object got, Object due) {

@@ -66,6 +66,7 @@ public final class FindSentencesTest {
                 "0/1/1 0/3/1");
         judged("{\"items\":{\"max\":1}}", "[2,1,2]", "5/1/2 5/3/2");
         judged("{\"items\":{\"max\":1}}", "[]", "");
+        judged("{\"properties\":{\"a\":{\"items\":false}}}", "{\"a\":[1],\"b\":2}", "0/2/3");
         judged("{\"properties\":{\"a\":{\"items\":{\"additional\":{\"max\":1}}}}}",
                 "{\"a\":[{\"b\":1,\"c\":2}]}", "5/4/5");
     }
@@ -75,6 +76,7 @@ public final class FindSentencesTest {
         judged("{\"allof\":[false,true,{\"max\":0},{\"max\":1}]}", "1", "0/0/2 5/0/5");
         judged("{\"allof\":[{\"allof\":[false]}]}", "1", "0/0/4");
         judged("{\"allof\":[]}", "1", "");
+        judged("{\"allof\":[false],\"x\":false}", "1", "0/0/2");
     }
 
     private static void reportedByRef() {
@@ -160,6 +162,11 @@ public final class FindSentencesTest {
         proposed("{\"items\":" + B + "}", "[[{}]]", 2, "");
         proposed("{\"items\":" + B + "}", "{\"a\":{}}", 1, "");
         proposed("{\"items\":[" + B + "]}", "[{}]", 1, "");
+        proposed("{\"properties\":{\"a\":{}},\"anyof\":[" + B + "]}", "{\"a\":{}}", 1, "");
+        proposed("{\"properties\":{\"a\":{\"items\":" + B + "}}}", "{\"a\":[1],\"c\":{}}", 3, "");
+        for (String word : new String[] {"properties", "additional", "items"}) {
+            proposed("{\"" + word + "\":[" + B + "]}", "{}", 0, "");
+        }
         proposed("{\"properties\":{\"a\":" + B + ",\"a\":{}}}", "{\"a\":{},\"a\":{}}", 2, "'b'");
     }
 
@@ -171,6 +178,7 @@ public final class FindSentencesTest {
             proposed("{\"" + word + "\":[" + B + ",{\"properties\":{\"a\":1}}]}", "{}", 0,
                     "'a' 'b'");
             proposed("{\"" + word + "\":[]}", "{}", 0, "");
+            proposed("{\"" + word + "\":[1],\"x\":" + B + "}", "{}", 0, "");
             proposed("{\"" + word + "\":{\"a\":" + B + "}}", "{}", 0, "");
             proposed("{\"" + word + "\":[[" + B + "]]}", "{}", 0, "");
             proposed("{\"" + word + "\":[{\"" + word + "\":[" + B + "]}]}", "{}", 0, "'b'");
@@ -184,6 +192,12 @@ public final class FindSentencesTest {
         proposed("{\"defs\":{\"a\":" + B + "}}", "{}", 0, "");
         proposed("{\"properties\":{\"b\":{\"ref\":\"#\"}}}", "{\"b\":{\"b\":{}}}", 2, "'b'");
         proposed("{\"ref\":\"#a\",\"defs\":{\"a\":false}}", "{}", 0, "");
+        proposed("{\"x\":" + B + ",\"ref\":5}", "{}", 0, "");
+        // Here the nodes that are reached stand behind and before those that lead to them.
+        proposed("{\"defs\":{\"q\":{}},\"allof\":[{\"properties\":{\"ref\":\"#q\"}}]}", "{}", 0,
+                "'ref'");
+        proposed("{\"defs\":{\"q\":" + B + "},\"allof\":[{\"additional\":{\"ref\":\"#q\"}}]}",
+                "{\"a\":{}}", 1, "'b'");
     }
 
     private static void notReached() {
@@ -227,6 +241,9 @@ public final class FindSentencesTest {
         proposed("{\"properties\":{\"b\":1,\"ab\":1,\"B\":1,\"ba\":1}}", "{}", 0, "'B' 'ab' 'b' 'ba'");
         proposed("{\"properties\":{\"~\":1,\" \":1,\"!\":1,\"z\":1,\"0\":1}}", "{}", 0,
                 "' ' '!' '0' 'z' '~'");
+        proposed("{\"properties\":{\"a!\":1,\"a\":1,\"a \":1,\"b\":1,\"\":1}}", "{}", 0,
+                "'' 'a' 'a ' 'a!' 'b'");
+        proposed("{\"properties\":{\"a \":1,\"a!\":1,\"a\":1}}", "{}", 0, "'a' 'a ' 'a!'");
         proposed("{\"properties\":{\"ac\":1,\"abz\":1,\"ab~~\":1}}", "{}", 0, "'abz' 'ab~~' 'ac'");
         proposed("{\"properties\":{\"z\":1},\"allof\":[{\"properties\":{\"a\":1}},"
                 + "{\"properties\":{\"m\":1}}]}", "{}", 0, "'a' 'm' 'z'");

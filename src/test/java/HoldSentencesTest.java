@@ -13,6 +13,9 @@ public final class HoldSentencesTest {
         alwaysOrNever();
         anotherKindSaysNothing();
         noOtherName();
+        noOthersChildren();
+        endOfTheText();
+        mostNodes();
         type();
         typesInArray();
         constant();
@@ -196,6 +199,91 @@ public final class HoldSentencesTest {
         holds("{\"max\":5,\"min\":1}", "3");
         holds("{\"Max\":2,\"ma\":2,\"maxi\":2,\" max\":2,\"\":false,\"defs\":false}", "3");
         holds("{\"a\":{\"max\":2}}", "3");
+        holds("{\"x\":\"null\",\"min\":3,\"min\":\"null\"}", "3");
+    }
+
+    private static void noOthersChildren() {
+        check.about("all that these children of s say (and not what stands behind them)");
+        check.same("a node before a max", Check.desk("{\"not\":{\"min\":1},\"max\":5}", "6")
+                .holds(1, 0), true);
+        holds("{\"not\":{\"additional\":false},\"properties\":{\"a\":1}}", "{\"a\":1}");
+        fails("{\"type\":[1],\"x\":\"number\"}", "1");
+        fails("{\"enum\":[2],\"x\":1}", "1");
+        holds("{\"required\":[\"a\"],\"x\":\"b\"}", "{\"a\":1}");
+        holds("{\"allof\":[1],\"x\":false}", "1");
+        fails("{\"anyof\":[false],\"x\":true}", "1");
+        holds("{\"oneof\":[1],\"x\":true}", "1");
+        fails("{\"unevaluated\":false,\"anyof\":[1],\"x\":{\"properties\":{\"a\":1}}}", "{\"a\":1}");
+        check.same("an ARRAY before another child", Check.desk("{\"items\":{\"max\":1}}",
+                "[[1],2]").holds(0, 1), true);
+        // What the anyof's node evaluates of the inner OBJECT is nothing of the outer one.
+        fails("{\"unevaluated\":{\"max\":0},\"anyof\":[{\"properties\":{\"b\":1},\"required\":[\"z\"]},"
+                + "1]}", "{\"a\":{\"z\":1},\"b\":1}");
+        fails("{\"unevaluated\":{\"max\":0},\"anyof\":[{\"properties\":{\"b\":1},\"required\":[\"z\"]},"
+                + "1]}", "{\"b\":1,\"a\":{\"z\":1,\"b\":1}}");
+    }
+
+    /** A desk whose texts had some characters more that were removed again. */
+    private static SchemaDesk shortened(String schema, String document, String more) {
+        SchemaDesk desk = Check.desk(schema + more, document + more);
+        desk.nodes(0);
+        desk.nodes(1);
+        desk.remove(0, schema.length(), more.length());
+        desk.remove(1, document.length(), more.length());
+        return desk;
+    }
+
+    private static void endOfTheText() {
+        check.about("STRING: .. if there is none, up to the end of the text (though others stood"
+                + " behind it before, or the text is full)");
+        for (String more : new String[] {"c", "\"", "cd", "}"}) {
+            check.same("schema's end, " + more,
+                    shortened("{\"const\":\"ab", "\"ab\"", more).holds(0, 0), true);
+            check.same("document's end, " + more,
+                    shortened("{\"const\":\"ab\"}", "\"ab", more).holds(0, 0), true);
+            check.same("both ends, " + more,
+                    shortened("{\"const\":\"ab", "\"ab", more).holds(0, 0), true);
+            check.same("schema's end, longer document, " + more,
+                    shortened("{\"const\":\"ab", "\"abc\"", more).holds(0, 0), false);
+            check.same("longer schema, document's end, " + more,
+                    shortened("{\"const\":\"abc\"}", "\"ab", more).holds(0, 0), false);
+            check.same("length, " + more,
+                    shortened("{\"maxlength\":2}", "\"ab", more).holds(0, 0), true);
+            check.same("ref, " + more, shortened("{\"defs\":{\"ab\":false,\"abc\":1},\"ref\":\"#ab",
+                    "1", more).holds(0, 0), false);
+            check.same("no ref, " + more, shortened("{\"defs\":{\"c\":1},\"ref\":\"", "1",
+                    more.replace('c', '#')).holds(0, 0), false);
+            check.same("type, " + more, shortened("{\"type\":\"number", "1", more).holds(0, 0),
+                    true);
+        }
+        String full = "{" + " ".repeat(148) + "\"const\":\"ab";
+        check.same("length", full.length(), 160);
+        holds(full, "\"ab\"");
+        holds(full, "\"ab");
+        holds(full, " ".repeat(77) + "\"ab");
+        fails(full, " ".repeat(76) + "\"abc");
+        fails(full, " ".repeat(78) + "\"a");
+        holds("{\"const\":\"ab\"}", " ".repeat(77) + "\"ab");
+        fails("{\"const\":\"abc\"}", " ".repeat(77) + "\"ab");
+        fails("{\"minlength\":3}", " ".repeat(77) + "\"ab");
+        fails("{\"defs\":{\"a\":false}," + " ".repeat(130) + "\"ref\":\"#a", "1");
+    }
+
+    private static void mostNodes() {
+        check.about("A node s of the schema HOLDS for a node i of the document: (the last of as many"
+                + " as there can be)");
+        SchemaDesk wide = Check.desk("[" + "-".repeat(159), "[" + "-".repeat(79));
+        check.same("nodes", wide.nodes(0) + wide.nodes(1), 240);
+        check.same("the last for the last", wide.holds(159, 79), true);
+        // Nodes 1, 3, .. 63 are NUMBERS and 65, 67, .. are not, those between the other way.
+        SchemaDesk desk = Check.desk("[" + "-".repeat(144) + "{\"type\":\"null\"}",
+                "[" + "1a".repeat(32) + " " + "a1".repeat(7));
+        check.same("nodes of the schema", desk.nodes(0), 147);
+        check.same("nodes of the document", desk.nodes(1), 79);
+        for (int i = 1; i < 79; i++) {
+            boolean due = i % 2 == 0 ? i <= 64 : i > 64;
+            check.same("for node " + i, desk.holds(145, i), due);
+        }
     }
 
     private static void type() {
@@ -433,6 +521,7 @@ public final class HoldSentencesTest {
         for (String document : new String[] {"null", "1", "\"a\"", "{}", "{\"a\":1}"}) {
             holds("{\"items\":false}", document);
         }
+        holds("{\"items\":1,\"type\":\"object\"}", "{\"a\":1}");
     }
 
     private static void allof() {
@@ -518,6 +607,7 @@ public final class HoldSentencesTest {
         fails("{\"ref\":\"#ab\",\"defs\":{\"a\":1}}", "1");
         fails("{\"ref\":\"#a\",\"defs\":[1]}", "1");
         fails("{\"ref\":\"#a\",\"defs\":\"a\"}", "1");
+        fails("{\"ref\":\"#{\",\"defs\":[1]}", "1");
         fails("{\"ref\":\"#a\",\"defs\":{\"a\":}}", "1");
         fails("{\"ref\":\"#a\",\"a\":1}", "1");
         fails("{\"ref\":\"#a\",\"defs\":{\"b\":{\"a\":1}}}", "1");
@@ -590,6 +680,7 @@ public final class HoldSentencesTest {
         holds(head + a + "}}", "{\"a\":1}");
         fails(head + a + "}}", "{\"b\":1}");
         fails(head + "1}}", "{\"a\":1}");
+        fails("{\"x\":" + a + ",\"ref\":5,\"unevaluated\":false}", "{\"a\":1}");
         fails("{\"unevaluated\":false,\"not\":{\"not\":" + a + "}}", "{\"a\":1}");
         fails("{\"unevaluated\":false,\"properties\":{\"a\":{\"properties\":{\"b\":1}}}}",
                 "{\"a\":{},\"b\":1}");
@@ -658,6 +749,8 @@ public final class HoldSentencesTest {
             "{\"not\":[{\"ref\":\"#\"}]}",
             "{\"ref\":1,\"ref\":\"#\"}",
             "{\"ref\":[\"#\"]}",
+            "{\"ref\":[#\"\"]}",
+            "{\"not\":{\"x\":1},\"ref\":\"#x\",\"defs\":{\"x\":1}}",
             "{\"ref\":\"#a\"}",
             "{\"ref\":\"#a\",\"defs\":{\"b\":{\"ref\":\"#\"}}}",
             "{\"defs\":{\"a\":{\"ref\":\"#b\"},\"b\":{\"ref\":\"#c\"},\"c\":{}}}",

@@ -21,6 +21,7 @@ public final class ReadSentencesTest {
         moreThanSixDigits();
         lettersThatSaySomething();
         otherLetters();
+        blanksInArray();
         closedArray();
         arrayUpToTheEnd();
         commaInArray();
@@ -36,6 +37,7 @@ public final class ReadSentencesTest {
         valueOrElse();
         bothCountAsMember();
         otherCharacterInObject();
+        kindsOfNodes();
         numberedByPlaces();
         behindTheLastCharacter();
         parentsChildrenAndNames();
@@ -279,6 +281,14 @@ public final class ReadSentencesTest {
         nodes("z".repeat(160), "0/0/160/-1/0/-1/0");
     }
 
+    private static void blanksInArray() {
+        check.about("[ ARRAY, again and again: blanks are passed.");
+        faults("[  ]", "");
+        faults("[  1  ,  2  ]  ", "");
+        nodes("[  1  ,  2  ]  ", "5/0/13/-1/2/-1/0 3/3/4/0/0/-1/1 3/9/10/0/0/-1/2");
+        faults("[  ?  ,  ]", "3@3 8@6 10@9");
+    }
+
     private static void closedArray() {
         check.about("A ] ends it, with fault 10 at its place, if a comma was passed and no value"
                 + " read behind it.");
@@ -490,6 +500,17 @@ public final class ReadSentencesTest {
             }
         }
         faults("{1a[]}", "3@1 3@2 3@3 3@4");
+    }
+
+    private static void kindsOfNodes() {
+        check.about("A node has a KIND: 0 NULL, 1 FALSE, 2 TRUE, 3 NUMBER, 4 STRING, 5 ARRAY, 6"
+                + " OBJECT;");
+        String[] texts = {"null", "false", "true", "0", "\"\"", "[]", "{}"};
+        for (int kind = 0; kind < texts.length; kind++) {
+            kinds(texts[kind], kind + "@0");
+            kinds("[" + texts[kind], "5@0 " + kind + "@1");
+            kinds("{\"\":" + texts[kind], "6@0 " + kind + "@4");
+        }
     }
 
     private static void numberedByPlaces() {
