@@ -262,5 +262,11 @@ public final class FindSentencesTest {
         proposed(schema.toString(), "{", 0, due.toString().trim());
         String longest = "z".repeat(160 - 19);
         proposed("{\"properties\":{\"" + longest + "\":1", "{}", 0, "'" + longest + "'");
+        SchemaDesk desk = Check.desk("{\"properties\":{\"a\":1,\"b\":1}}", "{}");
+        check.same("two names", desk.propose(0), 2);
+        desk.remove(0, 0, desk.length(0));
+        Check.fill(desk, 0, "{\"properties\":{\"" + longest + "\":1");
+        check.same("the longest behind two", Check.proposals(desk, desk.propose(0)),
+                "'" + longest + "'");
     }
 }
